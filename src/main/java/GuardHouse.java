@@ -1,3 +1,6 @@
+import java.util.Arrays;
+import java.util.NoSuchElementException;
+
 /** Processes whose every act is granted only by a policy; the document's promises say how. */
 public final class GuardHouse {
     public static final int NONE = -1;
@@ -108,7 +111,7 @@ public final class GuardHouse {
     public GuardHouse() {
     }
 
-    public int put(int signs) {
+    public int put(int signs) throws IllegalArgumentException, UnsupportedOperationException {
         int more = 0;
         for (int i = 0; i < 4; i++) {
             int sign = (signs >>> (8 * i)) & 255;
@@ -126,14 +129,14 @@ public final class GuardHouse {
         return text.size;
     }
 
-    public void end(int n) {
+    public void end(int n) throws IllegalArgumentException {
         if (n < 0 || n > text.size) {
             throw new IllegalArgumentException("no such end");
         }
         text.size = n;
     }
 
-    public int load() {
+    public int load() throws IllegalStateException {
         int fault = compiler.compile();
         if (fault != NONE) {
             return fault;
@@ -154,7 +157,7 @@ public final class GuardHouse {
         return draft.isValid(0) && journal.now.isValidBy(draft) && holdings.isValidBy(draft);
     }
 
-    public int policy(int what) {
+    public int policy(int what) throws IllegalStateException, IllegalArgumentException {
         if (!guard.loaded) {
             throw new IllegalStateException("no policy");
         }
@@ -164,7 +167,7 @@ public final class GuardHouse {
         return guard.policy.counts[what];
     }
 
-    public int vector(int source, int target, int kind) {
+    public int vector(int source, int target, int kind) throws IllegalStateException, IllegalArgumentException {
         if (!guard.loaded) {
             throw new IllegalStateException("no policy");
         }
@@ -174,7 +177,7 @@ public final class GuardHouse {
         return guard.policy.vectorOf(source, target, kind);
     }
 
-    public int move(int source, int target, int kind) {
+    public int move(int source, int target, int kind) throws IllegalStateException, IllegalArgumentException {
         if (!guard.loaded) {
             throw new IllegalStateException("no policy");
         }
@@ -188,50 +191,59 @@ public final class GuardHouse {
         return kind >= 0 && kind < CLASSES;
     }
 
-    public int identifier(int context) {
+    public int identifier(int context) throws IllegalArgumentException {
         if (context < 0) {
             throw new IllegalArgumentException("no context is below 0");
         }
         return guard.identifierOf(context);
     }
 
-    public int onPath(int p, int kind, int path) {
+    public int onPath(int p, int kind, int path)
+            throws IllegalStateException, IllegalArgumentException, NoSuchElementException {
         return told(act(actOf(LOOK, kind, 5), p, path, 0));
     }
 
-    public int onPaths(int p, int kind, int path, int other) {
+    public int onPaths(int p, int kind, int path, int other)
+            throws IllegalStateException, IllegalArgumentException, NoSuchElementException {
         return told(act(actOf(OPEN, kind, 4), p, path, other));
     }
 
-    public int onHandle(int p, int kind, int h) {
+    public int onHandle(int p, int kind, int h)
+            throws IllegalStateException, IllegalArgumentException, NoSuchElementException {
         return told(act(actOf(CLOSE, kind, 5), p, h, 0));
     }
 
-    public int write(int p, int h, int b) {
+    public int write(int p, int h, int b)
+            throws IllegalStateException, IllegalArgumentException, NoSuchElementException {
         return told(act(WRITE_BYTE, p, h, b));
     }
 
-    public int seek(int p, int h, int at) {
+    public int seek(int p, int h, int at)
+            throws IllegalStateException, IllegalArgumentException, NoSuchElementException {
         return told(act(SEEK, p, h, at));
     }
 
-    public int alone(int p, int kind) {
+    public int alone(int p, int kind)
+            throws IllegalStateException, IllegalArgumentException, NoSuchElementException {
         return told(act(actOf(FORK, kind, 3), p, 0, 0));
     }
 
-    public int onProcess(int p, int kind, int q) {
+    public int onProcess(int p, int kind, int q)
+            throws IllegalStateException, IllegalArgumentException, NoSuchElementException {
         return told(act(actOf(SIGNAL, kind, 2), p, q, 0));
     }
 
-    public int switchTo(int p, int context) {
+    public int switchTo(int p, int context)
+            throws IllegalStateException, IllegalArgumentException, NoSuchElementException {
         return told(act(SWITCH, p, context, 0));
     }
 
-    public void label(int n, int context) {
+    public void label(int n, int context)
+            throws IllegalStateException, IllegalArgumentException, NoSuchElementException {
         told(act(LABEL, NONE, n, context));
     }
 
-    public int context(int i, int what) {
+    public int context(int i, int what) throws IllegalArgumentException {
         if (what < 0 || what > 2 || i < 0 || i >= (what == 0 ? PROCESSES : what == 1 ? NODES : PIPES)) {
             throw new IllegalArgumentException("no such number");
         }
@@ -244,13 +256,13 @@ public final class GuardHouse {
         return holdings.pipeContexts[i];
     }
 
-    public int node(int n, int what) {
+    public int node(int n, int what) throws IllegalArgumentException, NoSuchElementException {
         if (n < 0 || n >= NODES || what < 0) {
             throw new IllegalArgumentException("no such number");
         }
         Tree tree = journal.now;
         if (!tree.isThere(n) || what - 3 >= tree.sizes[n]) {
-            throw new java.util.NoSuchElementException("no such node, byte or entry");
+            throw new NoSuchElementException("no such node, byte or entry");
         }
         if (what == 0) {
             return tree.isDirectory(n) ? 1 : 0;
@@ -261,7 +273,7 @@ public final class GuardHouse {
         return what == 2 ? tree.linksOf(n) : tree.contentAt(n, what - 3);
     }
 
-    public int record(int i, int what) {
+    public int record(int i, int what) throws IndexOutOfBoundsException, IllegalArgumentException {
         if (i < 0 || i >= guard.recordsKept()) {
             throw new IndexOutOfBoundsException("no such record");
         }
@@ -271,7 +283,7 @@ public final class GuardHouse {
         return guard.recordNumber(i, what);
     }
 
-    public int about(int what) {
+    public int about(int what) throws IllegalArgumentException {
         switch (what) {
             case 0:
                 return guard.recordCount;
@@ -308,7 +320,7 @@ public final class GuardHouse {
         return fault;
     }
 
-    public int result(int i) {
+    public int result(int i) throws IndexOutOfBoundsException {
         if (i == NONE) {
             return resultCount;
         }
@@ -322,7 +334,7 @@ public final class GuardHouse {
         act(SYNC, NONE, 0, 0);
     }
 
-    public void crash(int n) {
+    public void crash(int n) throws IllegalStateException, IllegalArgumentException {
         told(act(CRASH, NONE, n, 0));
     }
 
@@ -338,7 +350,7 @@ public final class GuardHouse {
             throw new IllegalArgumentException("a number is not as it must be");
         }
         if (result == NO_SUCH) {
-            throw new java.util.NoSuchElementException("no such process or node");
+            throw new NoSuchElementException("no such process or node");
         }
         return result;
     }
@@ -563,10 +575,16 @@ public final class GuardHouse {
         void advance() {
             place = text.behindBlanks(next);
             name = 0;
-            if (Text.isLetter(text.at(place))) {
-                readName();
-            } else {
+            if (!Text.isLetter(text.at(place))) {
                 readSign(text.at(place));
+                return;
+            }
+            readName();
+            int number = Text.wordNumber(WORDS, name);
+            if (name == 0) {
+                kind = WRONG;
+            } else {
+                kind = number == NONE ? NAME : FIRST_WORD + number;
             }
         }
 
@@ -576,12 +594,6 @@ public final class GuardHouse {
                 next++;
             }
             name = text.packed(place, next);
-            int number = Text.wordNumber(WORDS, name);
-            if (name == 0) {
-                kind = WRONG;
-            } else {
-                kind = number == NONE ? NAME : FIRST_WORD + number;
-            }
         }
 
         private static boolean isInName(int sign) {
@@ -678,8 +690,8 @@ public final class GuardHouse {
         private int codeCount;
 
         void clear() {
-            java.util.Arrays.fill(counts, 0);
-            java.util.Arrays.fill(attributeTypes, 0);
+            Arrays.fill(counts, 0);
+            Arrays.fill(attributeTypes, 0);
             codeCount = 0;
         }
 
@@ -1321,11 +1333,11 @@ public final class GuardHouse {
 
         private int cache(int source, int target, int kind, int permissions) {
             if (cacheSize >= CACHED) {
-                dropFirst(cacheSources);
-                dropFirst(cacheTargets);
-                dropFirst(cacheClasses);
-                dropFirst(cacheVectors);
                 cacheSize = CACHED - 1;
+                System.arraycopy(cacheSources, 1, cacheSources, 0, cacheSize);
+                System.arraycopy(cacheTargets, 1, cacheTargets, 0, cacheSize);
+                System.arraycopy(cacheClasses, 1, cacheClasses, 0, cacheSize);
+                System.arraycopy(cacheVectors, 1, cacheVectors, 0, cacheSize);
             }
             int row = cacheSize;
             cacheSources[row] = source;
@@ -1334,10 +1346,6 @@ public final class GuardHouse {
             cacheVectors[row] = permissions;
             cacheSize++;
             return row;
-        }
-
-        private static void dropFirst(int[] column) {
-            System.arraycopy(column, 1, column, 0, CACHED - 1);
         }
 
         private void identify(int context) {
@@ -1394,7 +1402,7 @@ public final class GuardHouse {
         private final int[] contents = new int[NODES * FILE_BYTES];
 
         Tree() {
-            java.util.Arrays.fill(kinds, NONE);
+            Arrays.fill(kinds, NONE);
         }
 
         void makeRoot() {
@@ -1606,16 +1614,16 @@ public final class GuardHouse {
 
         Holdings(Tree tree) {
             this.tree = tree;
-            java.util.Arrays.fill(processes, NONE);
-            java.util.Arrays.fill(handles, NONE);
-            java.util.Arrays.fill(pipeContexts, NONE);
+            Arrays.fill(processes, NONE);
+            Arrays.fill(handles, NONE);
+            Arrays.fill(pipeContexts, NONE);
         }
 
         void startAnew() {
-            java.util.Arrays.fill(processes, NONE);
-            java.util.Arrays.fill(handles, NONE);
-            java.util.Arrays.fill(tellers, 0);
-            java.util.Arrays.fill(pipeContexts, NONE);
+            Arrays.fill(processes, NONE);
+            Arrays.fill(handles, NONE);
+            Arrays.fill(tellers, 0);
+            Arrays.fill(pipeContexts, NONE);
             processes[0] = 0;
         }
 

@@ -1,0 +1,245 @@
+import java.util.ArrayList;
+import java.util.List;
+import java.util.function.ToIntFunction;
+
+/** All promises: runs of calls made from seeds, whose answers a plainer house must give, too. */
+public final class ModelTest {
+    private static final int RUNS = 150;
+    private static final int CALLS = 400;
+
+    private final TextMaker maker;
+    private final GuardHouse house = new GuardHouse();
+    private final PlainHouse plain = new PlainHouse();
+    private final List<String> calls = new ArrayList<>();
+
+    private ModelTest(long seed) {
+        maker = new TextMaker(seed);
+    }
+
+    public static void main(String[] args) {
+        long first = args.length > 0 ? Long.parseLong(args[0]) : 0;
+        int runs = args.length > 1 ? Integer.parseInt(args[1]) : RUNS;
+        for (long seed = first; seed < first + runs; seed++) {
+            new ModelTest(seed).run();
+            new ModelTest(seed).texts();
+        }
+    }
+
+    private static String answer(java.util.function.IntSupplier call) {
+        try {
+            return String.valueOf(call.getAsInt());
+        } catch (RuntimeException thrown) {
+            return thrown.getClass().getSimpleName();
+        }
+    }
+
+    private String same(String call, ToIntFunction<GuardHouse> one, ToIntFunction<PlainHouse> other) {
+        String got = answer(() -> one.applyAsInt(house));
+        String due = answer(() -> other.applyAsInt(plain));
+        if (!got.equals(due)) {
+            calls.forEach(System.out::println);
+            System.out.println(call + " answered " + got + ", due is " + due);
+            System.exit(1);
+        }
+        return got;
+    }
+
+    private void call(String call, ToIntFunction<GuardHouse> one, ToIntFunction<PlainHouse> other) {
+        calls.add(call + " -> " + same(call, one, other));
+    }
+
+    private void put(String text) {
+        calls.add("text: " + text);
+        same("end", h -> {
+            h.end(0);
+            return 0;
+        }, h -> h.end(0));
+        for (int i = 0; i < text.length(); i += 4) {
+            int signs = 0;
+            for (int j = 0; j < 4 && i + j < text.length(); j++) {
+                signs |= text.charAt(i + j) << 8 * j;
+            }
+            int four = signs;
+            same("put", h -> h.put(four), h -> h.put(four));
+        }
+    }
+
+    private void run() {
+        maker.size();
+        int freedom = maker.chance(50) ? 100 : 50 + maker.below(51);
+        boolean calm = maker.chance(50);
+        for (int i = 0; i < CALLS; i++) {
+            if (i == 0 || (!calm && maker.chance(2))) {
+                put(maker.policy(freedom));
+                call("load", GuardHouse::load, PlainHouse::load);
+            }
+            if (maker.chance(5)) {
+                other(calm ? 3 + maker.below(3) : maker.below(7));
+            } else {
+                act(livingProcess(), livingProcess());
+            }
+            if (maker.chance(5)) {
+                state();
+            }
+        }
+        call("crash(1", x -> {
+            x.crash(1);
+            return 0;
+        }, x -> x.crash(1));
+        state();
+    }
+
+    /** Mostly a process that is there; if none is, a crash makes one. */
+    private int livingProcess() {
+        List<Integer> living = new ArrayList<>();
+        for (int i = 0; i < 8; i++) {
+            if (plain.context(i, 0) != GuardHouse.NONE) {
+                living.add(i);
+            }
+        }
+        if (living.isEmpty()) {
+            call("crash(0", x -> {
+                x.crash(0);
+                return 0;
+            }, x -> x.crash(0));
+            return 0;
+        }
+        return maker.chance(97) ? living.get(maker.below(living.size())) : maker.process();
+    }
+
+    private void act(int p, int q) {
+        int kind = maker.chance(2) ? maker.below(9) - 2 : maker.below(5);
+        int path = maker.path();
+        int to = maker.path();
+        int context = maker.context();
+        int h = maker.handle();
+        int number = maker.below(27) - 1;
+        String numbers = "(" + p + ", " + kind;
+        switch (maker.below(22)) {
+            case 0:
+            case 1:
+            case 2:
+            case 13:
+            case 14:
+                call("onPath" + numbers + ", " + path, x -> x.onPath(p, kind, path), x -> x.onPath(p, kind, path));
+                break;
+            case 3:
+            case 4:
+            case 15:
+            case 16:
+            case 17:
+                int mode = maker.chance(50) ? maker.below(33) - 1 : 8 | maker.below(8);
+                int paths = maker.chance(40) ? 0 : kind;
+                int other = paths == 0 ? mode : paths == 3 ? context : to;
+                call("onPaths(" + p + ", " + paths + ", " + path + ", " + other, x -> x.onPaths(p, paths, path, other),
+                        x -> x.onPaths(p, paths, path, other));
+                break;
+            case 5:
+            case 6:
+            case 18:
+            case 19:
+                call("onHandle" + numbers + ", " + h, x -> x.onHandle(p, kind, h), x -> x.onHandle(p, kind, h));
+                break;
+            case 7:
+            case 8:
+            case 20:
+                call("write(" + p + ", " + h + ", " + path, x -> x.write(p, h, path), x -> x.write(p, h, path));
+                break;
+            case 9:
+            case 21:
+                call("seek(" + p + ", " + h + ", " + number, x -> x.seek(p, h, number), x -> x.seek(p, h, number));
+                break;
+            case 10:
+                int alone = maker.chance(15) ? kind : maker.below(2);
+                call("alone(" + p + ", " + alone, x -> x.alone(p, alone), x -> x.alone(p, alone));
+                break;
+            case 11:
+                int on = maker.chance(20) ? 0 : maker.chance(90) ? 1 : kind;
+                call("onProcess(" + p + ", " + on + ", " + q, x -> x.onProcess(p, on, q), x -> x.onProcess(p, on, q));
+                break;
+            default:
+                call("switchTo(" + p + ", " + context, x -> x.switchTo(p, context), x -> x.switchTo(p, context));
+                break;
+        }
+    }
+
+    private void other(int which) {
+        int n = maker.below(7) - (maker.chance(10) ? 1 : 0);
+        int context = maker.context();
+        int second = maker.context();
+        int kind = maker.chance(90) ? maker.below(5) : maker.below(7) - 1;
+        int source = maker.below(4);
+        switch (which) {
+            case 0:
+                call("crash(" + n, x -> {
+                    x.crash(n);
+                    return 0;
+                }, x -> x.crash(n));
+                break;
+            case 1:
+                call("sync(", x -> {
+                    x.sync();
+                    return 0;
+                }, PlainHouse::sync);
+                break;
+            case 2:
+                call("label(" + n + ", " + context, x -> {
+                    x.label(n, context);
+                    return 0;
+                }, x -> x.label(n, context));
+                break;
+            case 3:
+                call("vector(" + context + ", " + second + ", " + kind, x -> x.vector(context, second, kind),
+                        x -> x.vector(context, second, kind));
+                break;
+            case 4:
+                call("move(" + source + ", " + n + ", " + kind, x -> x.move(source, n, kind), x -> x.move(source, n, kind));
+                break;
+            case 5:
+                call("identifier(" + context, x -> x.identifier(context), x -> x.identifier(context));
+                break;
+            default:
+                events(maker.chance(90) ? maker.events() : maker.spoilt(maker.events()));
+                break;
+        }
+    }
+
+    private void events(String text) {
+        put(text);
+        call("events", GuardHouse::events, PlainHouse::events);
+        for (int i = -2; i < plain.result(-1) + 2; i++) {
+            int number = i;
+            call("result(" + i, x -> x.result(number), x -> x.result(number));
+        }
+    }
+
+    private void state() {
+        for (int i = -1; i < 9; i++) {
+            int what = i;
+            same("about(" + i, x -> x.about(what), x -> x.about(what));
+            same("policy(" + i, x -> x.policy(what), x -> x.policy(what));
+        }
+        for (int i = -1; i < 33; i++) {
+            int number = i;
+            for (int j = -1; j < 30; j++) {
+                int what = j;
+                same("node(" + i + ", " + j, x -> x.node(number, what), x -> x.node(number, what));
+                if (j < 6) {
+                    same("record(" + i + ", " + j, x -> x.record(number, what), x -> x.record(number, what));
+                    same("context(" + i + ", " + j, x -> x.context(number, what), x -> x.context(number, what));
+                }
+            }
+        }
+        same("put", x -> x.put(0), x -> x.put(0));
+    }
+
+    private void texts() {
+        for (int i = 0; i < 20; i++) {
+            maker.size();
+            put(maker.spoilt(maker.policy(20)));
+            call("load", GuardHouse::load, PlainHouse::load);
+            events(maker.spoilt(maker.events()));
+        }
+        state();
+    }
+}

@@ -1214,7 +1214,6 @@ public final class GuardHouse {
         }
 
         private void closeBrackets() {
-            releaseWaiting(Tokens.NOT);
             for (int i = 0; i < DEEPEST && tokens.kind == ')'; i++) {
                 releaseWaiting(Tokens.OR);
                 if (waitingCount == 0) {
@@ -1223,7 +1222,6 @@ public final class GuardHouse {
                 waitingCount--;
                 depth--;
                 tokens.advance();
-                releaseWaiting(Tokens.NOT);
             }
         }
 

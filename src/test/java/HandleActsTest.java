@@ -268,6 +268,11 @@ public final class HandleActsTest {
         DUE.is("the pipe stays", 1, h.about(6));
         close(h, 0);
         DUE.is("the pipe goes", 0, h.about(6));
+        h.alone(0, 1);
+        h.write(0, 1, 5);
+        close(h, 0);
+        close(h, 1);
+        DUE.is("the pipe goes", 0, h.about(6));
         DUE.is("another pipe", 10, h.alone(0, 1));
         DUE.is("without old bytes", GuardHouse.WAITS, read(h, 0));
         for (int i = 0; i < 8; i++) {

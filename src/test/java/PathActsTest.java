@@ -379,6 +379,9 @@ public final class PathActsTest {
         DUE.is("p's own type, not the file's", 1, run(h, 1));
         h.label(1, 0);
         DUE.is("p's own type still", 1, run(h, 1));
+        Due.load(h, HEAD + FREE + "move b a:process a;");
+        DUE.is("back by a move", 0, run(h, 1));
+        DUE.is("p has that", 0, h.context(0, 0));
         String move = HEAD + "allow a *:dir *;allow a a:file create;move a b:process b;";
         ran("the file's read", move + "allow a b:process become;allow b b:file entry;", GuardHouse.DENIED, 0, 1);
         ran("become", move + "allow a b:file read;allow b b:file entry;", GuardHouse.DENIED, 2, 2);

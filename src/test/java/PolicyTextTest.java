@@ -11,6 +11,7 @@ public final class PolicyTextTest {
         names();
         rules();
         conditions();
+        loadedAgain();
         counts();
         nevers();
         moves();
@@ -79,7 +80,7 @@ public final class PolicyTextTest {
     }
 
     private static void names() {
-        faults("type abcdefghi;", "type ^abcdefghij;", "type a_1;", "type ^_a;", "type ^1;", "type a1^-;", "type a^B;",
+        faults("type abcdefghi;", "type a09z_;", "type ^abcdefghij;", "type a_1;", "type ^_a;", "type ^1;", "type a1^-;", "type a^B;",
                 "type a;type ^a;", "attribute a;type ^a;", "type a;role ^a{a};", "type a;role r{a};user ^r{r};",
                 "type a;role r{a};user ^a{r};", "type a;attribute ^a;", "type a;role r{a};type ^r;",
                 "type typ;type types;type ^type;", "type ^abcdefghijk", "^abcdefghij a;");
@@ -139,8 +140,25 @@ public final class PolicyTextTest {
                 limit + "not not not not not not not not not not ^not u1==u2;",
                 limit + "not(not(not(not(not(u1==u2))))) and not(not(not(not(not(u1==u2)))));",
                 limit + "not(not(not(not(not(u1==u2 or ^not u1==u2)))));",
+                limit + "not u1==u2 and " + ten + "^(u1==u2)" + close + ";", limit + "not u1==u2 or " + ten + "^not u1==u2;",
+                limit + "(not u1==u2) and " + ten + "^(u1==u2)" + close + ";",
+                limit + "not(not u1==u2) or " + ten + "u1==u2" + close + ";",
                 limit + ten.substring(1) + "not u1==u2 and not u2==u1" + close.substring(1) + ";",
                 limit + ten + "u1==u2" + close + " and " + ten + "u1==u2" + close + " or " + ten + "^(");
+    }
+
+    /** What a fault left unread has no part in what is loaded behind it. */
+    private static void loadedAgain() {
+        GuardHouse house = new GuardHouse();
+        String limit = TWO + "limit file read ";
+        String ten = "((((((((((";
+        String deep = limit + ten + "u1==u2))))))))));";
+        for (int i = 0; i < 40; i++) {
+            DUE.is("a fault within brackets", limit.length() + 10, Due.load(house, limit + ten + ";"));
+            DUE.is("a fault behind not", limit.length() + 12, Due.load(house, limit + "not not not ;"));
+            DUE.is("ten brackets", GuardHouse.NONE, Due.load(house, deep + "allow a a:file *;limit file write t1==b or t2==b;"));
+            DUE.is("what is asked", 1021, house.vector(0, 0, 0));
+        }
     }
 
     private static String times(int n, String text) {
@@ -176,6 +194,7 @@ public final class PolicyTextTest {
                 head + "quiet a b:file read;never a b:file read;", head + "never a b:file read;never a b:file read;",
                 head + "never a a:file read;^never a b:file read;never b b:file read;allow * b:file read;", "attribute n;" + BASE + "allow n n:file *;never n n:file *;",
                 "attribute n;" + BASE + "allow n n:file *;^never * *:file *;type b,n;");
+        faults("allow * *:file *;never * *:file *;", "allow * self:file *;^never * *:file *;type a;");
         fault(head + "move a a:file a;move a a:file b;^never a b:file read;allow a b:file read;");
         fault(head + "never a b:file read;allow a b:file read; ^&");
         fault(head + "^never a b:file read; limit file read u1!=u2;allow a b:file read;");

@@ -191,6 +191,14 @@ public final class QuestionsTest {
         about(house, 14, 4, 1);
         house.load();
         about(house, 14, 4, 0);
+        GuardHouse other = Due.with(HEAD + "allow * *:process *;");
+        other.switchTo(0, 1);
+        other.switchTo(0, 0);
+        about(other, 2, 0, 2);
+        other.switchTo(0, 0);
+        about(other, 3, 0, 3);
+        other.switchTo(0, 1);
+        about(other, 4, 1, 3);
     }
 
     private static void about(GuardHouse house, int questions, int hits, int kept) {

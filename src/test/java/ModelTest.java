@@ -4,7 +4,7 @@ import java.util.function.ToIntFunction;
 
 /** All promises: runs of calls made from seeds, whose answers a plainer house must give, too. */
 public final class ModelTest {
-    private static final int RUNS = 150;
+    private static final int RUNS = 120;
     private static final int CALLS = 400;
 
     private final TextMaker maker;
@@ -22,6 +22,7 @@ public final class ModelTest {
         for (long seed = first; seed < first + runs; seed++) {
             new ModelTest(seed).run();
             new ModelTest(seed).texts();
+            new ModelTest(seed).wildNumbers();
         }
     }
 
@@ -231,6 +232,61 @@ public final class ModelTest {
             }
         }
         same("put", x -> x.put(0), x -> x.put(0));
+    }
+
+    private int wild() {
+        int[] edges = {Integer.MIN_VALUE, Integer.MIN_VALUE + 1, -101, -2, -1, 24, 25, 31, 32, 99, 100, 10000, 99999999, 100000000,
+            Integer.MAX_VALUE - 1, Integer.MAX_VALUE};
+        return maker.chance(60) ? maker.below(8) : edges[maker.below(edges.length)];
+    }
+
+    /** Numbers far from what is asked for, ahead of a policy and behind it. */
+    private void wildNumbers() {
+        maker.size();
+        for (int i = 0; i < 300; i++) {
+            if (i == 50) {
+                put(maker.policy(100));
+                call("load", GuardHouse::load, PlainHouse::load);
+            }
+            wildCall(maker.below(21), wild(), wild(), wild(), wild());
+        }
+        state();
+    }
+
+    private void wildCall(int which, int a, int b, int c, int d) {
+        String call = "call " + which + ": " + a + ", " + b + ", " + c + ", " + d;
+        switch (which) {
+            case 0 -> call(call, x -> x.put(a), x -> x.put(a));
+            case 1 -> call(call, x -> {
+                x.end(a);
+                return 0;
+            }, x -> x.end(a));
+            case 2 -> call(call, x -> x.policy(a), x -> x.policy(a));
+            case 3 -> call(call, x -> x.vector(a, b, c), x -> x.vector(a, b, c));
+            case 4 -> call(call, x -> x.move(a, b, c), x -> x.move(a, b, c));
+            case 5 -> call(call, x -> x.identifier(a), x -> x.identifier(a));
+            case 6 -> call(call, x -> x.onPath(a, b, c), x -> x.onPath(a, b, c));
+            case 7 -> call(call, x -> x.onPaths(a, b, c, d), x -> x.onPaths(a, b, c, d));
+            case 8 -> call(call, x -> x.onHandle(a, b, c), x -> x.onHandle(a, b, c));
+            case 9 -> call(call, x -> x.write(a, b, c), x -> x.write(a, b, c));
+            case 10 -> call(call, x -> x.seek(a, b, c), x -> x.seek(a, b, c));
+            case 11 -> call(call, x -> x.alone(a, b), x -> x.alone(a, b));
+            case 12 -> call(call, x -> x.onProcess(a, b, c), x -> x.onProcess(a, b, c));
+            case 13 -> call(call, x -> x.switchTo(a, b), x -> x.switchTo(a, b));
+            case 14 -> call(call, x -> {
+                x.label(a, b);
+                return 0;
+            }, x -> x.label(a, b));
+            case 15 -> call(call, x -> x.context(a, b), x -> x.context(a, b));
+            case 16 -> call(call, x -> x.node(a, b), x -> x.node(a, b));
+            case 17 -> call(call, x -> x.record(a, b), x -> x.record(a, b));
+            case 18 -> call(call, x -> x.about(a), x -> x.about(a));
+            case 19 -> call(call, x -> x.result(a), x -> x.result(a));
+            default -> call(call, x -> {
+                x.crash(a);
+                return 0;
+            }, x -> x.crash(a));
+        }
     }
 
     private void texts() {

@@ -192,7 +192,8 @@ public final class PolicyTextTest {
                 head + "allow x b:file read;never * self:file read;", head + "allow a c:file read;never x self:file read;",
                 head + "allow a a:file read;^never x self:file read;", head + "audit a b:file read;never a b:file read;",
                 head + "quiet a b:file read;never a b:file read;", head + "never a b:file read;never a b:file read;",
-                head + "never a a:file read;^never a b:file read;never b b:file read;allow * b:file read;", "attribute n;" + BASE + "allow n n:file *;never n n:file *;",
+                head + "never a a:file read;^never a b:file read;never b b:file read;allow * b:file read;",
+                "attribute n;" + BASE + "allow n n:file *;never n n:file *;",
                 "attribute n;" + BASE + "allow n n:file *;^never * *:file *;type b,n;");
         faults("allow * *:file *;never * *:file *;", "allow * self:file *;^never * *:file *;type a;");
         fault(head + "move a a:file a;move a a:file b;^never a b:file read;allow a b:file read;");

@@ -2218,7 +2218,11 @@ public final class GuardHouse {
             if (tree.isDirectory(node)) {
                 return IS_DIRECTORY;
             }
-            return guard.grants(holdings.processes[p], tree.contexts[node], FILE, READ) ? nextContent(opening, node) : DENIED;
+            if (!guard.grants(holdings.processes[p], tree.contexts[node], FILE, READ)) {
+                return DENIED;
+            }
+            int content = nextContent(opening, node);
+            return content == NONE ? BEHIND_THE_LAST : content;
         }
 
         private int readPipe(int p, int pipe) {
@@ -2231,13 +2235,11 @@ public final class GuardHouse {
             return holdings.hasEnd(pipe, WRITE) ? WAITS : BEHIND_THE_LAST;
         }
 
+        /** NONE at the end: any number from 0 on may be an entry. */
         private int nextContent(int opening, int node) {
-            int place = holdings.places[opening];
-            if (place >= tree.sizes[node]) {
-                return BEHIND_THE_LAST;
-            }
-            holdings.places[opening]++;
-            return tree.contentAt(node, place);
+            int content = tree.contentAt(node, holdings.places[opening]);
+            holdings.places[opening] += content == NONE ? 0 : 1;
+            return content;
         }
 
         private int list(int p, int h) {
@@ -2253,7 +2255,7 @@ public final class GuardHouse {
                 return DENIED;
             }
             int entry = nextContent(opening, node);
-            return entry == BEHIND_THE_LAST ? entry : entry % 100;
+            return entry == NONE ? BEHIND_THE_LAST : entry % Tree.NODE_FACTOR;
         }
 
         private int empty(int p, int h) {

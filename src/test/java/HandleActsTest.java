@@ -14,6 +14,7 @@ public final class HandleActsTest {
         appends();
         fullFiles();
         lists();
+        listsNamesOfAllNodes();
         empties();
         seeks();
         pipes();
@@ -195,6 +196,25 @@ public final class HandleActsTest {
         h.alone(0, 1);
         DUE.is("a pipe", GuardHouse.NO_DIRECTORY, list(h, 2));
         DUE.is("none", GuardHouse.NO_HANDLE, list(h, 5));
+    }
+
+    /** No node's number may turn a name into another answer, such as that behind the last one. */
+    private static void listsNamesOfAllNodes() {
+        for (int node = 1; node < 32; node++) {
+            GuardHouse h = free();
+            for (int i = 1; i < node; i++) {
+                DUE.is("ahead of it", i, h.onPath(0, 1, i < 10 ? i : i / 10 + 100 * i));
+            }
+            DUE.is("the node", node, h.onPath(0, 1, 10));
+            int last = h.node(0, 1) - 1;
+            open(h, 0, 1);
+            for (int name = 11; name < 100; name++) {
+                h.onPaths(0, 2, name - 1, name);
+                h.seek(0, 0, last);
+                DUE.is("name " + name + " of node " + node, name, list(h, 0));
+                DUE.is("behind name " + name + " of node " + node, 256, list(h, 0));
+            }
+        }
     }
 
     private static void empties() {

@@ -15,6 +15,7 @@ final class TextMaker {
     private int attributes;
     private int roles;
     private int users;
+    private int firstName;
 
     TextMaker(long seed) {
         random = new Random(seed);
@@ -28,12 +29,13 @@ final class TextMaker {
         return below(100) < percent;
     }
 
-    /** How large the policies are that follow. */
+    /** How large the policies are that follow, and which names paths mostly have. */
     void size() {
         types = 1 + below(5);
         attributes = below(3);
         roles = 1 + below(3);
         users = 1 + below(2);
+        firstName = below(99);
     }
 
     private String type() {
@@ -141,7 +143,7 @@ final class TextMaker {
         int path = 0;
         int names = chance(5) ? 0 : chance(60) ? 1 : chance(70) ? 2 : 3 + below(2);
         for (int i = 0; i < names; i++) {
-            path = path * 100 + 1 + below(chance(90) ? 3 : 14);
+            path = path * 100 + (chance(90) ? 1 + (firstName + below(3)) % 99 : 1 + below(chance(70) ? 14 : 99));
         }
         return chance(2) ? path * 100 : chance(1) ? -path : path;
     }

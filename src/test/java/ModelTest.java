@@ -11,6 +11,8 @@ public final class ModelTest {
     private final GuardHouse house = new GuardHouse();
     private final PlainHouse plain = new PlainHouse();
     private final List<String> calls = new ArrayList<>();
+    // Whether most acts make or link, so that directories and the tree get full.
+    private boolean growing;
 
     private ModelTest(long seed) {
         maker = new TextMaker(seed);
@@ -69,6 +71,7 @@ public final class ModelTest {
         maker.size();
         int freedom = maker.chance(50) ? 100 : 50 + maker.below(51);
         boolean calm = maker.chance(50);
+        growing = maker.chance(30);
         for (int i = 0; i < CALLS; i++) {
             if (i == 0 || (!calm && maker.chance(2))) {
                 put(maker.policy(freedom));
@@ -108,12 +111,32 @@ public final class ModelTest {
         return maker.chance(97) ? living.get(maker.below(living.size())) : maker.process();
     }
 
+    /** A path that is there, or one name more than such a one, or any. */
+    private int path(int percentThere) {
+        List<Integer> there = plain.paths();
+        if (there.isEmpty() || maker.chance(10)) {
+            return maker.path();
+        }
+        int path = there.get(maker.below(there.size()));
+        if (maker.chance(percentThere)) {
+            return path;
+        }
+        int factor = path < 100 ? 100 : path < 10000 ? 10000 : 1000000;
+        return maker.chance(50) || path >= 1000000 ? maker.path() : path + factor * maker.name();
+    }
+
+    private int handle(int p) {
+        List<Integer> there = plain.handles(p);
+        return there.isEmpty() || maker.chance(20) ? maker.handle() : there.get(maker.below(there.size()));
+    }
+
     private void act(int p, int q) {
-        int kind = maker.chance(2) ? maker.below(9) - 2 : maker.below(5);
-        int path = maker.path();
-        int to = maker.path();
+        boolean grows = growing && maker.chance(60);
+        int kind = maker.chance(2) ? maker.below(9) - 2 : grows ? 1 : maker.below(5);
+        int path = path(grows ? 0 : 60);
+        int to = path(10);
         int context = maker.context();
-        int h = maker.handle();
+        int h = handle(p);
         int number = maker.below(27) - 1;
         String numbers = "(" + p + ", " + kind;
         switch (maker.below(22)) {
@@ -129,7 +152,7 @@ public final class ModelTest {
             case 15:
             case 16:
             case 17:
-                int mode = maker.chance(50) ? maker.below(33) - 1 : 8 | maker.below(8);
+                int mode = maker.chance(30) ? 1 : maker.chance(50) ? maker.below(33) - 1 : 8 | maker.below(8);
                 int paths = maker.chance(40) ? 0 : kind;
                 int other = paths == 0 ? mode : paths == 3 ? context : to;
                 call("onPaths(" + p + ", " + paths + ", " + path + ", " + other, x -> x.onPaths(p, paths, path, other),
@@ -165,11 +188,11 @@ public final class ModelTest {
     }
 
     private void other(int which) {
-        int n = maker.below(7) - (maker.chance(10) ? 1 : 0);
+        int n = maker.below(maker.chance(80) ? 7 : 34) - (maker.chance(10) ? 1 : 0);
         int context = maker.context();
         int second = maker.context();
         int kind = maker.chance(90) ? maker.below(5) : maker.below(7) - 1;
-        int source = maker.below(4);
+        int source = maker.below(maker.chance(80) ? 4 : 26);
         switch (which) {
             case 0:
                 call("crash(" + n, x -> {

@@ -308,6 +308,27 @@ final class PlainHouse {
         return 0;
     }
 
+    /** The paths of up to four names that lead to nodes, to choose from. */
+    List<Integer> paths() {
+        List<Integer> found = new ArrayList<>();
+        addPaths(found, 0, 0, 1);
+        return found;
+    }
+
+    private void addPaths(List<Integer> found, int node, int path, int factor) {
+        for (int[] entry : nodes.containsKey(node) ? nodes.get(node).entries : List.<int[]>of()) {
+            found.add(path + factor * entry[0]);
+            if (factor < 1000000) {
+                addPaths(found, entry[1], path + factor * entry[0], 100 * factor);
+            }
+        }
+    }
+
+    /** The handles of a process, to choose from. */
+    List<Integer> handles(int p) {
+        return processes.containsKey(p) ? new ArrayList<>(processes.get(p).handles.keySet()) : List.of();
+    }
+
     private static int least(Set<Integer> taken) {
         int number = 0;
         while (taken.contains(number)) {

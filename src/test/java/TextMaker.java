@@ -4,7 +4,7 @@ import java.util.Random;
 /** Makes texts of policies and events, right ones and spoilt ones, from a seed. */
 final class TextMaker {
     private static final List<String> SCRAPS = List.of(";", ",", "{", "}", "(", ")", ":", "*", "==", "!=", "=", "!", "#",
-            "\n", " ", "type", "role", "self", "not", "and", "or", "t1", "t2", "u1", "r2", "a", "b", "x", "r0", "u0", "nobody",
+            "\n", " ", "type", "role", "self", "not", "and", "or", "t1", "t2", "u1", "r2", "a", "b", "x", "x0", "r_0", "u_0", "nobody",
             "tenletters", "ninesigns", "read", "use", "add", "file", "dir", "handle", "9", "_", "A", "limit", "move", "0",
             "12345678", "123456789", "look", "sync", "fork", "allow", "never a a:file read;", "type a;", "move a a:file a;");
     private static final String[] ACTS = {"look", "mkdir", "rmdir", "unlink", "run", "open", "link", "rename", "relabel",
@@ -16,6 +16,7 @@ final class TextMaker {
     private int roles;
     private int users;
     private int firstName;
+    private int commonNames;
 
     TextMaker(long seed) {
         random = new Random(seed);
@@ -31,11 +32,13 @@ final class TextMaker {
 
     /** How large the policies are that follow, and which names paths mostly have. */
     void size() {
-        types = 1 + below(5);
-        attributes = below(3);
-        roles = 1 + below(3);
-        users = 1 + below(2);
+        boolean large = chance(20);
+        types = 1 + below(large ? 24 : 5);
+        attributes = below(large ? 9 : 3);
+        roles = 1 + below(large ? 6 : 3);
+        users = 1 + below(large ? 4 : 2);
         firstName = below(99);
+        commonNames = chance(80) ? 3 : 12;
     }
 
     private String type() {
@@ -43,25 +46,25 @@ final class TextMaker {
     }
 
     private String meant() {
-        return attributes > 0 && chance(30) ? String.valueOf((char) ('x' + below(attributes))) : type();
+        return attributes > 0 && chance(30) ? "x" + below(attributes) : type();
     }
 
     String policy(int freedom) {
         StringBuilder text = new StringBuilder();
         for (int i = 0; i < attributes; i++) {
-            text.append("attribute ").append((char) ('x' + i)).append("; ");
+            text.append("attribute x").append(i).append("; ");
         }
         for (int i = 0; i < types; i++) {
             text.append("type ").append((char) ('a' + i));
             for (int j = 0; j < attributes; j++) {
-                text.append(chance(40) ? ", " + (char) ('x' + j) : "");
+                text.append(chance(80 / attributes) ? ", x" + j : "");
             }
-            text.append(chance(10) ? " # a comment; type z\n;" : ";");
+            text.append(chance(10) ? " # a comment; type zz\n;" : ";");
         }
         for (int i = 0; i < roles; i++) {
             text.append("role r_").append(i).append("{a");
             for (int j = 0; j < types; j++) {
-                text.append(chance(80) ? " " + (char) ('a' + j) : "");
+                text.append(chance(types > 5 ? 50 : 80) ? " " + (char) ('a' + j) : "");
             }
             text.append("};");
         }
@@ -139,11 +142,15 @@ final class TextMaker {
         }
     }
 
+    int name() {
+        return 1 + (chance(85) ? (firstName + below(commonNames)) % 99 : below(chance(70) ? 14 : 99));
+    }
+
     int path() {
         int path = 0;
         int names = chance(5) ? 0 : chance(60) ? 1 : chance(70) ? 2 : 3 + below(2);
         for (int i = 0; i < names; i++) {
-            path = path * 100 + (chance(90) ? 1 + (firstName + below(3)) % 99 : 1 + below(chance(70) ? 14 : 99));
+            path = path * 100 + name();
         }
         return chance(2) ? path * 100 : chance(1) ? -path : path;
     }

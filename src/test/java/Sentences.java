@@ -32,8 +32,9 @@ final class Sentences {
 
     /**
      * Does the lines on a new house with this policy (none if it is empty). A line is a call of Script's, perhaps with
-     * " = " and what it must answer; "9* " ahead of it does it nine times; "! " ahead of it: it changes nothing (but
-     * cache, identifiers and records, if it throws nothing). "text " puts what is behind it in the text's place.
+     * " = " and what it must answer; "9* " ahead of it does it nine times, with 1 .. 9 for %; "! " ahead of it: it
+     * changes nothing (but cache, identifiers and records, if it throws nothing). "text " puts what is behind it in
+     * the text's place.
      */
     void holds(String words, String policy, String... lines) {
         quoting(words);
@@ -62,7 +63,8 @@ final class Sentences {
         int star = line.indexOf("* ");
         int times = star < 0 ? 1 : Integer.parseInt(line.substring(0, star));
         for (int i = 0; i < times; i++) {
-            single(script, line.substring(star < 0 ? 0 : star + 2));
+            String each = star < 0 ? line : line.substring(star + 2).replace("%", String.valueOf(i + 1));
+            single(script, each);
         }
     }
 

@@ -9,8 +9,8 @@ import java.util.regex.Pattern;
 /** The document's sections, so that tests can quote no words that it hasn't. */
 final class Document {
     private static final Path PLACE = Path.of("..", "shared", "DOC.md");
-    private static final Pattern HEADS = Pattern.compile(
-            "^(?:## (What it is)$|## (Promise \\d+):|(\\d)\\. [A-Z]|(A call that throws changes nothing)|## Not promised)", Pattern.MULTILINE);
+    private static final Pattern HEADS = Pattern.compile("^(?:## (What it is)$|## (Promise \\d+):|(\\d)\\. [A-Z]"
+            + "|(A call that throws changes nothing)|## Not promised)", Pattern.MULTILINE);
 
     private final Map<String, String> sections = new HashMap<>();
 

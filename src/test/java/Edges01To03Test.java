@@ -32,16 +32,15 @@ public final class Edges01To03Test {
                 "put 0x20 = 9", "load = IllegalState", "put 0x65707974 = 13", "put 0x7e7e7e7e = 17", "load = 13");
         S.holds("(0 is left out)", "", "put 0 = 0", "put 0x61 = 1", "put 0x6100 = 2", "put 0x610000 = 3", "put 0x61000000 = 4",
                 "put 0x61006100 = 6", "put 0x00610061 = 8", "put 0 = 8");
-        S.holds("IllegalArgumentException if a byte is none of those", "",
-                "! put 0x20202009 = IllegalArgument", "put 0x0a = 1", "! put 0x2020200b = IllegalArgument",
-                "! put 0x0000001f = IllegalArgument", "put 0x20 = 2", "put 0x7e = 3", "put 0x7f = IllegalArgument",
-                "put 0x80 = IllegalArgument", "put 0xa0 = IllegalArgument", "put 0xff = IllegalArgument", "put 0x01 = IllegalArgument",
-                "put 0 = 3");
+        S.holds("IllegalArgumentException if a byte is none of those", "", "! put 0x20202009 = IllegalArgument", "put 0x0a = 1",
+                "! put 0x2020200b = IllegalArgument", "! put 0x0000001f = IllegalArgument", "put 0x20 = 2", "put 0x7e = 3",
+                "put 0x7f = IllegalArgument", "put 0x80 = IllegalArgument", "put 0xa0 = IllegalArgument",
+                "put 0xff = IllegalArgument", "put 0x01 = IllegalArgument", "put 0 = 3");
         for (int place = 0; place < 4; place++) {
             String zeros = "00".repeat(place);
-            S.holds("if a byte is none of those", "", "put 0x7f" + zeros + " = IllegalArgument", "put 0x1f" + zeros + " = IllegalArgument",
-                    "put 0x80" + zeros + " = IllegalArgument", "put 0x0a" + zeros + " = 1", "put 0x20" + zeros + " = 2",
-                    "put 0x7e" + zeros + " = 3");
+            S.holds("if a byte is none of those", "", "put 0x7f" + zeros + " = IllegalArgument", "put 0x1f" + zeros
+                    + " = IllegalArgument", "put 0x80" + zeros + " = IllegalArgument", "put 0x0a" + zeros + " = 1", "put 0x20"
+                    + zeros + " = 2", "put 0x7e" + zeros + " = 3");
         }
         S.holds("UnsupportedOperationException if there would be more than 1200.", "",
                 "299* put 0x20202020", "put 0x0020 = 1197", "! put 0x20202020 = UnsupportedOperation", "put 0x20002020 = 1200",
@@ -51,24 +50,24 @@ public final class Edges01To03Test {
         S.promise("Promise 2: put", "Behind Terms 6");
         S.holds("Of several exceptions of other calls that one goes which the call names first.", "",
                 "300* put 0x20202020", "put 0x20202009 = IllegalArgument", "put 0xff202020 = IllegalArgument");
-        S.holds("A call that throws changes nothing.", "",
-                "299* put 0x20202020", "put 0x2020 = 1198", "put 0x20202020 = UnsupportedOperation", "put 0 = 1198", "load = IllegalState",
-                "end 0", "put 0x7f616161 = IllegalArgument", "put 0 = 0", "put 0x3b61 = 2", "put 0x7f202020 = IllegalArgument", "put 0 = 2");
+        S.holds("A call that throws changes nothing.", "", "299* put 0x20202020", "put 0x2020 = 1198",
+                "put 0x20202020 = UnsupportedOperation", "put 0 = 1198", "load = IllegalState", "end 0",
+                "put 0x7f616161 = IllegalArgument", "put 0 = 0", "put 0x3b61 = 2", "put 0x7f202020 = IllegalArgument",
+                "put 0 = 2");
         S.promise("Promise 2: put", "Terms 1");
-        S.holds("A TEXT has at most 1200 signs, 32 .. 126 and line ends (10).", "",
-                "put 0x65707974", "put 0x3b6120", "291* put 0x0a200a20", "put 0x200a20 = 1174", "put 0x656c6f72", "put 0x617b7220",
-                "put 0x75203b7d", "put 0x20726573", "put 0x7d727b75", "put 0x2020203b", "put 0x2320 = 1200", "load = NONE",
-                "policy 3 = 1");
+        S.holds("A TEXT has at most 1200 signs, 32 .. 126 and line ends (10).", "", "put 0x65707974", "put 0x3b6120",
+                "291* put 0x0a200a20", "put 0x200a20 = 1174", "put 0x656c6f72", "put 0x617b7220", "put 0x75203b7d",
+                "put 0x20726573", "put 0x7d727b75", "put 0x2020203b", "put 0x2320 = 1200", "load = NONE", "policy 3 = 1");
     }
 
     private static void end() {
         S.promise("Promise 3: end");
-        S.holds("The text has its first n signs.", "",
-                "put 0x3b3b6261", "end 4", "put 0 = 4", "end 3", "put 0 = 3", "end 0", "put 0 = 0", "put 0x65707974", "put 0x7a7a7a20",
-                "end 5", "put 0x723b61 = 8", "load = 7", "end 7", "load = IllegalState");
-        S.holds("IllegalArgumentException if n is below 0 or above how many there are.", "",
-                "end -1 = IllegalArgument", "end 1 = IllegalArgument", "end 0", "put 0x61626364", "! end 5 = IllegalArgument",
-                "! end -1 = IllegalArgument", "end 0x80000000 = IllegalArgument", "end 0x7fffffff = IllegalArgument", "end 4", "end 3",
+        S.holds("The text has its first n signs.", "", "put 0x3b3b6261", "end 4", "put 0 = 4", "end 3", "put 0 = 3", "end 0",
+                "put 0 = 0", "put 0x65707974", "put 0x7a7a7a20", "end 5", "put 0x723b61 = 8", "load = 7", "end 7",
+                "load = IllegalState");
+        S.holds("IllegalArgumentException if n is below 0 or above how many there are.", "", "end -1 = IllegalArgument",
+                "end 1 = IllegalArgument", "end 0", "put 0x61626364", "! end 5 = IllegalArgument", "! end -1 = IllegalArgument",
+                "end 0x80000000 = IllegalArgument", "end 0x7fffffff = IllegalArgument", "end 4", "end 3",
                 "end 4 = IllegalArgument", "put 0 = 3");
     }
 }

@@ -77,7 +77,8 @@ final class Script {
         int contents = Integer.parseInt(answer("node " + n + " 1"));
         StringBuilder node = new StringBuilder();
         for (int what = 0; what < 3 + contents; what++) {
-            node.append("node ").append(n).append(' ').append(what).append(" = ").append(answer("node " + n + " " + what)).append('\n');
+            String call = "node " + n + " " + what;
+            node.append(call).append(" = ").append(answer(call)).append('\n');
         }
         return node.toString();
     }

@@ -83,7 +83,8 @@ final class Sentences {
     private void expect(String what, String due, String got) {
         if (!due.equals(got)) {
             wrong++;
-            System.out.println(promise + ", " + section + ", \"" + quote + "\": " + what + " answered " + got + ", due is " + due);
+            System.out.println(promise + ", " + section + ", \"" + quote + "\": " + what + " answered " + got
+                    + ", due is " + due);
         }
     }
 

@@ -1363,7 +1363,7 @@ public final class GuardHouse {
         }
 
         private void addRecord(int granted, int source, int target, int kind, int permissions) {
-            int at = recordCount % RECORDS * RECORD_NUMBERS;
+            int at = Math.floorMod(recordCount, RECORDS) * RECORD_NUMBERS;
             records[at] = granted;
             records[at + 1] = source;
             records[at + 2] = target;
